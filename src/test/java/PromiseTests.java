@@ -106,6 +106,7 @@ public final class PromiseTests {
         castBlock();
         blockSize();
         applyBlock();
+        fullNetworks();
         System.out.println(wrong == 0 ? "all promises hold" : wrong + " answers are not as due");
         if (wrong != 0) System.exit(1);
     }
@@ -432,6 +433,10 @@ public final class PromiseTests {
         setKeys(x, 6, 7, 6, 7);
         x.run(1);
         due("isStable() of values that are apart", x.isStable(), 1);
+        make(x, 1, 3, 10, 2);
+        setKeys(x, 6, 7, 6);
+        x.run(1);
+        due("isStable() of 6, 6, 7 from 2, 0, 1", x.isStable(), 0);
         make(x, 1, 4, 10, 21, 3);
         setKeys(x, 6, 7, 6, 9);
         x.run(1);
@@ -592,6 +597,7 @@ public final class PromiseTests {
         due("totalExchanges(4)", x.totalExchanges(4), NO_SUCH_ELEMENT);
         due("totalExchanges(-1)", x.totalExchanges(-1), NO_SUCH_ELEMENT);
         promise = 27;
+        due("countSorted(0)", x.countSorted(0), 24);
         due("mostExchanges(0)", x.mostExchanges(0), 5);
         due("mostExchanges(1)", x.mostExchanges(1), 28);
         due("mostExchanges(2)", x.mostExchanges(2), 40);
@@ -649,6 +655,9 @@ public final class PromiseTests {
         make(x, 2, 3, 1, 12, 1, 12, 1);
         due("reduce(2)", x.reduce(2), 2);
         dueNetwork(x, 2, 3, 1, 12, 1);
+        make(x, 2, 2, 10, 1);
+        due("reduce(2) of the first comparator", x.reduce(2), 1);
+        dueNetwork(x, 2, 2, 1);
         make(x, 3, 3, 12, 1, 12, 1, 2);
         due("reduce(3)", x.reduce(3), 2);
         dueNetwork(x, 3, 3, 12, 1, 12);
@@ -711,6 +720,13 @@ public final class PromiseTests {
         due("candidate(2, 27, 0)", x.candidate(2, 27, 0), 67);
         due("candidate(2, 27, 1)", x.candidate(2, 27, 1), 192);
         due("candidate(2, 28, 1)", x.candidate(2, 28, 1), BAD_VALUE);
+        make(x, 2, 4, 1);
+        int[] codesThen = {23, 2, 3, 12, 13, 1};
+        int[] outputsThen = {9, 10, 10, 10, 10, 12};
+        for (int rank = 0; rank < 6; rank++) {
+            due("candidate(2, " + rank + ", 0)", x.candidate(2, rank, 0), codesThen[rank]);
+            due("candidate(2, " + rank + ", 1)", x.candidate(2, rank, 1), outputsThen[rank]);
+        }
         fill(x, 3, 3, 40);
         due("candidate(3, 0, 0) of a full network", x.candidate(3, 0, 0), 2);
         due("candidate(3, 2, 0) of a full network", x.candidate(3, 2, 0), 1);
@@ -768,6 +784,9 @@ public final class PromiseTests {
         fill(x, 3, 3, 40);
         due("missing(3, 2) regardless of the room", x.missing(3, 2), 2);
         due("size(3)", x.size(3), 40);
+        make(x, 3, 3, 12);
+        due("missing(3, 1)", x.missing(3, 1), NONE);
+        due("missing(3, 2), both on wire 0", x.missing(3, 2), 2);
     }
 
     private static void sameOutputs() {
@@ -896,6 +915,7 @@ public final class PromiseTests {
         due("isMerger(1, 2) without comparators", x.isMerger(1, 2), 1);
         make(x, 2, 4, 10);
         due("isMerger(2, 0) that spoils what is sorted", x.isMerger(2, 0), 0);
+        due("isMerger(2, 4) that spoils what is sorted", x.isMerger(2, 4), 0);
         make(x, 3, 8, 1, 12, 23, 34, 45, 56, 67);
         due("isMerger(3, 1), one value moving up", x.isMerger(3, 1), 1);
         due("isMerger(3, 7), one value moving down", x.isMerger(3, 7), 0);
@@ -923,6 +943,9 @@ public final class PromiseTests {
         fill(x, 0, 3, 21);
         fill(x, 1, 3, 19);
         due("concatenate(0, 0, 3)", x.concatenate(0, 0, 3), FULL);
+        fill(x, 2, 3, 20);
+        due("concatenate(0, 2, 3)", x.concatenate(0, 2, 3), FULL);
+        due("concatenate(2, 0, 3)", x.concatenate(2, 0, 3), FULL);
         dueNetwork(x, 3, 2);
         due("concatenate(0, 1, 3)", x.concatenate(0, 1, 3), 40);
         due("wires(3)", x.wires(3), 3);
@@ -950,6 +973,7 @@ public final class PromiseTests {
         fill(x, 0, 4, 21);
         fill(x, 1, 4, 20);
         due("beside(0, 1, 2)", x.beside(0, 1, 2), FULL);
+        due("beside(1, 0, 2)", x.beside(1, 0, 2), FULL);
         due("size(2)", x.size(2), 4);
         due("beside(1, 1, 2)", x.beside(1, 1, 2), 8);
         due("size(2)", x.size(2), 40);
@@ -1208,5 +1232,45 @@ public final class PromiseTests {
         due("applyBlock(1, 1), outside and full", x.applyBlock(1, 1), STATE);
         x.place(1, 0, 0, 0);
         due("applyBlock(1, 1) of nothing when full", x.applyBlock(1, 1), 0);
+    }
+
+    /** Networks with 40 comparators on 8 wires, which fill every row to its end. */
+    private static void fullNetworks() {
+        ComparatorNetworks x = begin(0);
+        x.build(0, 8, 0);
+        for (int k = 0; k < 12; k++) {
+            x.add(0, 1, 2);
+        }
+        due("size(0)", x.size(0), 40);
+        setKeys(x, 8, 7, 6, 5, 4, 3, 2, 1);
+        due("run(0)", x.run(0), 28);
+        due("result(7)", x.result(7), 8);
+        due("origin(7)", x.origin(7), 0);
+        due("layer(0, 39)", x.layer(0, 39), 24);
+        due("depth(0)", x.depth(0), 25);
+        due("outputOf(0, 1)", x.outputOf(0, 1), 128);
+        due("isMerger(0, 4)", x.isMerger(0, 4), 1);
+        due("isSorter(0)", x.isSorter(0), 1);
+        due("outputCount(0)", x.outputCount(0), 9);
+        due("countSorted(0)", x.countSorted(0), 40320);
+        due("totalExchanges(0)", x.totalExchanges(0), 40320L * 14);
+        due("mostExchanges(0)", x.mostExchanges(0), 28);
+        due("isRedundant(0, 39)", x.isRedundant(0, 39), 1);
+        due("isIsomorphic(0, 0)", x.isIsomorphic(0, 0), 1);
+        due("standardize(0)", x.standardize(0), 0);
+        due("mirror(0)", x.mirror(0), 40);
+        due("comparator(0, 39)", x.comparator(0, 39), 56);
+        due("prune(0)", x.prune(0), 12);
+        due("undo()", x.undo(), 11);
+        due("reduce(0)", x.reduce(0), 12);
+        due("undo()", x.undo(), 11);
+        due("remove(0, 0)", x.remove(0, 0), 67);
+        due("size(0)", x.size(0), 39);
+        fill(x, 1, 2, 0);
+        for (int k = 0; k < 40; k++) {
+            x.add(1, 1, 0);
+        }
+        due("standardize(1)", x.standardize(1), 1);
+        due("comparator(1, 39)", x.comparator(1, 39), 1);
     }
 }
