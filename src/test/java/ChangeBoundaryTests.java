@@ -161,7 +161,11 @@ public final class ChangeBoundaryTests implements Codes {
         Desk.test(39, least).due("build(0, 3, 3)", 3).holds(0, 3, 2, 1, 12);
         Desk.test(39, least).due("build(0, 4, 3)", 5).holds(0, 4, 2, 13, 1, 23, 12);
         Desk.test(39, least).due("build(0, 5, 3)", 9).holds(0, 5, 4, 2, 13, 24, 1, 23, 14, 12, 34);
-        Desk.test(39, least).due("build(0, 8, 3)", 19)
+        String each = "for each v from 0 to n - d - 1 in ascending order such that v & p is equal to r";
+        Desk.test(39, each).due("build(0, 6, 3)", 12).holds(0, 6, 4, 15, 2, 13, 24, 35, 1, 23, 45, 14, 12, 34);
+        Desk.test(39, each).due("build(0, 7, 3)", 16)
+            .holds(0, 7, 4, 15, 26, 2, 13, 46, 24, 35, 1, 23, 45, 14, 36, 12, 34, 56);
+        Desk.test(39, each).due("build(0, 8, 3)", 19)
             .holds(0, 8, 4, 15, 26, 37, 2, 13, 46, 57, 24, 35, 1, 23, 45, 67, 14, 36, 12, 34, 56);
     }
 

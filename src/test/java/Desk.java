@@ -178,9 +178,10 @@ final class Desk {
         return this;
     }
 
-    /** A call with its answer that leaves everything as it was. */
+    /** A call with its answer that leaves everything as it was, so that it answers the same once more. */
     Desk asks(String call, long want) {
         compare(call, live.call(call), want);
+        compare(call + " once more", live.call(call), want);
         if (portrait == null) {
             portrait = portraitAfter(log, null);
         }
@@ -231,7 +232,7 @@ final class Desk {
         }
     }
 
-    /** Everything that can be seen after these calls and one more; looking changes things, so each look is at a new object. */
+    /** All that can be seen after these calls and one more. Looking changes things, so each look is at a new object. */
     private static List<String> portraitAfter(List<String> calls, String last) {
         List<String> all = new ArrayList<>(calls);
         if (last != null) {

@@ -17,6 +17,7 @@ public final class ProofBoundaryTests implements Codes {
         isIsomorphic();
         subsumes();
         isMerger();
+        largeAndSmallInTurn();
         Desk.finish("ProofBoundaryTests");
     }
 
@@ -261,6 +262,8 @@ public final class ProofBoundaryTests implements Codes {
             .given("remove(0, 26)").refused("missing(0, 1)", NONE).asks("missing(0, 2)", 2)
             .given("remove(0, 25)").refused("missing(0, 2)", NONE);
         LimitTests.onlyHighestFails(Desk.test(35, more)).refused("missing(0, 0)", NONE).asks("missing(0, 1)", 1);
+        Desk.test(35, more).net(0, 3, 12).refused("missing(0, 1)", NONE).asks("missing(0, 2)", 2);
+        Desk.test(35, more).net(0, 3, 2).refused("missing(0, 1)", NONE).asks("missing(0, 2)", 2);
         String room = "regardless of the room.";
         Desk.test(35, room).fill(0, 3, 40).refused("missing(0, 1)", NONE).asks("missing(0, 2)", 2);
         Desk.test(35, room).fill(0, 3, 39).asks("missing(0, 2)", 2).due("add(0, 1, 2)", 40).asks("missing(0, 1)", 1);
@@ -370,5 +373,24 @@ public final class ProofBoundaryTests implements Codes {
         Desk.test(40, sorts).net(0, 8, 4, 15, 26, 37, 24, 35, 12, 34, 56).asks("isMerger(0, 4)", 1)
             .asks("isMerger(0, 3)", 0).asks("isMerger(0, 5)", 0);
         Desk.test(40, sorts).fill(0, 8, 40).asks("isMerger(0, 0)", 1).asks("isMerger(0, 1)", 0);
+    }
+
+    /** A question about a small network after one about a large network, and the other way round, on one object. */
+    private static void largeAndSmallInTurn() {
+        Desk desk = fullSorter(Desk.test(0, "Nothing is promised beyond the answers and state changes described above"))
+            .given("reset(1, 8)", "reset(2, 2)").net(3, 3, 1);
+        String[] questions = {"outputCount", "isSorter", "firstFailure", "countSorted", "firstUnsorted",
+            "totalExchanges", "mostExchanges", "depth"};
+        long[][] answers = {{9, 256, 4, 6}, {1, 0, 0, 0}, {NONE, 1, 1, 1}, {40320, 1, 1, 2}, {NONE, 1234576, 10, 21},
+            {564480, 0, 0, 3}, {28, 0, 0, 1}, {25, 0, 0, 1}};
+        for (int k = 0; k < questions.length; k++) {
+            for (int network : new int[] {0, 1, 2, 3, 1, 0, 3, 2}) {
+                desk.due(questions[k] + "(" + network + ")", answers[k][network]);
+            }
+        }
+        desk.due("candidate(1, 27, 0)", 67).due("candidate(2, 0, 0)", 1).due("candidate(2, 1, 0)", BAD_VALUE)
+            .due("candidate(3, 2, 0)", 1).due("missing(1, 2)", NONE).due("missing(3, 2)", 2).due("missing(2, 2)", 1)
+            .due("missing(0, 2)", 0).due("sameOutputs(0, 1)", 0).due("sameOutputs(2, 2)", 1).due("subsumes(3, 3)", 1)
+            .due("isIsomorphic(0, 1)", 0).due("isIsomorphic(2, 2)", 1);
     }
 }
