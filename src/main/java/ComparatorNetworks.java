@@ -640,7 +640,7 @@ public final class ComparatorNetworks {
 
     private static void pushMergeExchange(Network net) {
         int top = 1;
-        while (top * 2 < net.wireCount) {
+        for (int t = 1; t < MOST_WIRES && top * 2 < net.wireCount; t++) {
             top *= 2;
         }
         for (int p = top; p >= 1; p /= 2) {
@@ -702,7 +702,7 @@ public final class ComparatorNetworks {
         return spare.count;
     }
 
-    /** A network. What it holds is valid at all times: nothing gets in but through pushAt and takeOver. */
+    /** A network. What it holds is valid at all times: nothing gets in but through push, pushAt and takeOver. */
     private static final class Network {
         int wireCount = LEAST_WIRES;
         int count = 0;
@@ -745,7 +745,12 @@ public final class ComparatorNetworks {
         }
 
         void push(int i, int j) {
-            pushAt(count, i, j);
+            if (refusal(i, j) != ACCEPTED) {
+                return;
+            }
+            first[count] = i;
+            second[count] = j;
+            count++;
         }
 
         void pushAt(int position, int i, int j) {
@@ -1068,12 +1073,14 @@ public final class ComparatorNetworks {
             kind = NO_KIND;
         }
 
-        /** A parent's number is always less than its child's, so the way up ends. */
+        /** Goes up the tree of kinds from the block's own; the way up has fewer steps than there are kinds. */
         boolean isOfKind(int wanted) {
-            for (int k = kind; k >= 0 && k < KINDS; k = PARENTS[k]) {
-                if (k == wanted) {
+            int ancestor = kind;
+            for (int step = 0; step < KINDS && ancestor >= 0 && ancestor < KINDS; step++) {
+                if (ancestor == wanted) {
                     return true;
                 }
+                ancestor = PARENTS[ancestor];
             }
             return false;
         }
