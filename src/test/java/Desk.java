@@ -89,12 +89,18 @@ final class Desk {
         return new Desk(title);
     }
 
+    /** Begins a test on a new object that quotes no sentence, or one that was looked up already. */
+    static Desk titled(String title) {
+        tests++;
+        return new Desk(title);
+    }
+
     static void finish(String name) {
         System.out.println(name + ": " + tests + " tests, " + (wrong == 0 ? "all hold" : wrong + " faults"));
         if (wrong != 0) System.exit(1);
     }
 
-    private static void fault(String what) {
+    static void fault(String what) {
         wrong++;
         System.out.println(what);
     }
